@@ -203,8 +203,8 @@ public final class DanceCards {
         if (!papers.isSomething(k)) return SCAN_FAULT - NULL_FAULT;
         if (papers.lanes[k] != lane) return SCAN_FAULT - CAST_FAULT;
         for (int i = 0; i < n; i++) {
-            // A long, as f may stand near the highest int.
-            int answer = askFromSheet(k, (long) f + ASKING_CELLS * i);
+            // No overflow: past the first asking, f is known to be a cell of the sheet.
+            int answer = askFromSheet(k, f + ASKING_CELLS * i);
             if (answer < 0) {
                 takeBack(k, f, i);
                 return answer;
@@ -236,7 +236,6 @@ public final class DanceCards {
 
     public int set(int p, int d) {
         if (!guests.isThere(p) || !isDance(d)) return BAD;
-        if (!cards.isPaired(p, d)) return NONE;
         groupDance(d);
         return grouping.groupOf(p);
     }
@@ -317,10 +316,9 @@ public final class DanceCards {
         }
     }
 
-    /** One asking of a scan, from the cell on: 1, or what the scan answers then. */
-    private int askFromSheet(int k, long cell) {
-        if (!papers.hasCells(k, cell, ASKING_CELLS)) return SCAN_FAULT - INDEX_FAULT;
-        int first = (int) cell;
+    /** One asking of a scan, from its first cell on: 1, or what the scan answers then. */
+    private int askFromSheet(int k, int first) {
+        if (!papers.hasCells(k, first, ASKING_CELLS)) return SCAN_FAULT - INDEX_FAULT;
         int g = papers.read(k, first);
         int l = papers.read(k, first + 1);
         int d = papers.read(k, first + 2);
@@ -559,8 +557,8 @@ public final class DanceCards {
         private void readNumber() {
             tokenValue = 0;
             while (next < length && isFigure(next)) {
-                // Without this, the figures of a number too long would run over.
-                if (next - tokenPlace < FIGURES) tokenValue = 10 * tokenValue + bytes[next] - '0';
+                // It may wrap around: a number so long is WRONG, and its value is not looked at.
+                tokenValue = 10 * tokenValue + bytes[next] - '0';
                 next++;
             }
             tokenKind = next - tokenPlace > FIGURES ? WRONG : NUMBER;
@@ -789,8 +787,9 @@ public final class DanceCards {
             for (int i = 0; i < CELLS; i++) cells[k * CELLS + i] = 0;
         }
 
-        private boolean hasCells(int k, long first, int n) {
-            return first >= 0 && first + n <= sizes[k];
+        private boolean hasCells(int k, int first, int n) {
+            // Not first + n, which could run over.
+            return first >= 0 && first <= sizes[k] - n;
         }
 
         private int read(int k, int i) {

@@ -308,6 +308,8 @@ public final class PromiseTest {
         x.refuse(1, 3, 5);
         due("no couple", x.part(3, 0, 5), STATE);
         due("of another dance", x.part(2, 0, 4), STATE);
+        due("each with another", x.ask(3, 1, 9) + x.ask(2, 0, 9) + x.part(3, 0, 9), 2 + STATE);
+        dueCards("nothing changed", x, 9, 2, 3, 0, 1);
         due("one who sits", x.part(3, 1, 5), STATE);
         due("part", x.part(2, 0, 5), 1);
         dueCards("parted", x, 5, NONE, SITS, NONE, NONE);
