@@ -297,14 +297,11 @@ public final class DanceCards {
     /** The part of WHY that looks at other dances; neither of the two is taken in this one. */
     private int customAgainst(int g, int l, int d) {
         int together = cards.together(g, l);
+        int longerRow = Math.max(cards.rowThrough(g, d), cards.rowThrough(l, d));
         if (tape.isTold(PAIR) && together >= tape.told[PAIR]) return BY_PAIR;
-        if (tape.isTold(ROW) && longerRow(g, l, d) > tape.told[ROW]) return BY_ROW;
+        if (tape.isTold(ROW) && longerRow > tape.told[ROW]) return BY_ROW;
         if (tape.isTold(SUPPER) && d == tape.told[SUPPER] && together == 0) return BY_SUPPER;
         return 0;
-    }
-
-    private int longerRow(int g, int l, int d) {
-        return Math.max(cards.rowThrough(g, d), cards.rowThrough(l, d));
     }
 
     private void findPossiblePairs(int d) {

@@ -1,5 +1,11 @@
+import java.util.function.IntUnaryOperator;
+
 /** What the project's tests share: counting wrong answers, and small balls to begin with. */
 final class Due {
+    /** Too small, too large, the names of answers, and what becomes a small number if bits are lost. */
+    private static final int[] ODD_NUMBERS = {Integer.MIN_VALUE, Integer.MIN_VALUE + 1, -65536, -256, -32, -5, -4, -3, -2,
+        -1, 32, 33, 64, 65, 256, 257, 65536, 65537, Integer.MAX_VALUE - 1, Integer.MAX_VALUE};
+
     private static int wrong = 0;
     private static int checked = 0;
 
@@ -11,6 +17,19 @@ final class Due {
         if (got == want) return;
         wrong++;
         System.out.println(call + " answered " + got + ", due is " + want);
+    }
+
+    /** Every number outside of the bounds is BAD; the call must not depend on what it refused before. */
+    static void dueBadOutside(String call, int least, int most, IntUnaryOperator answer) {
+        due(call + " of " + (least - 1), answer.applyAsInt(least - 1), DanceCards.BAD);
+        due(call + " of " + (most + 1), answer.applyAsInt(most + 1), DanceCards.BAD);
+        for (int odd : ODD_NUMBERS) {
+            if (odd < least || odd > most) due(call + " of " + odd, answer.applyAsInt(odd), DanceCards.BAD);
+        }
+    }
+
+    static void dueRow(String call, IntUnaryOperator answer, int... wanted) {
+        for (int i = 0; i < wanted.length; i++) due(call + " of " + i, answer.applyAsInt(i), wanted[i]);
     }
 
     static void finish() {
@@ -36,11 +55,11 @@ final class Due {
         return v;
     }
 
-    /** Puts a text behind the tape. */
+    /** Puts a text behind the tape: what is less than eight bytes comes first, so that it can be filled to its end. */
     static void type(DanceCards x, String text) {
-        int before = x.count(7);
-        for (int i = 0; i < text.length(); i += 8) x.feed(eight(text, i));
-        x.end(before + text.length());
+        int odd = text.length() % 8;
+        if (odd > 0) x.end(x.feed(eight(text, 0)) - 8 + odd);
+        for (int i = odd; i < text.length(); i += 8) x.feed(eight(text, i));
     }
 
     static int tell(DanceCards x, String text) {

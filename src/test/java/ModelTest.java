@@ -2,7 +2,9 @@ import java.util.Random;
 
 /** Random runs of calls (always the same ones): the class must answer what the naive ball answers. */
 public final class ModelTest {
-    private static final int RUNS = 700, CALLS = 512;
+    /** What an object answers behind its 512th call is free, so no run goes on for longer. */
+    private static final int RUNS = 1500, CALLS = 512;
+    private static final int MOST_OF_A_STEP = 24;
     private static final int[] EDGES = {-5, -4, -1, 16, 24, 60, 61, 64, Integer.MIN_VALUE, Integer.MAX_VALUE};
     private static final String[] WORDS = {"pair", "rank", "row", "supper", "pears", "0", "1", "2", "3", "9", "10",
         "23", "24", "25", "0007", ";", ";", ";", " ", "  ", "-", "\u0000", "\u00e4", "P"};
@@ -11,6 +13,7 @@ public final class ModelTest {
     private DanceCards real;
     private NaiveBall naive;
     private int run;
+    private int calls;
     /** Few people and few dances make full cards. */
     private int dances;
     private int oddity;
@@ -55,6 +58,7 @@ public final class ModelTest {
     }
 
     private void same(String call, int got, int want) {
+        calls++;
         Due.due("run " + run + ": " + call, got, want);
     }
 
@@ -211,20 +215,28 @@ public final class ModelTest {
         }
     }
 
-    /** All that can be asked, at the end of a run. */
-    private void compareAll() {
-        for (int p = 0; p < naive.count(0); p++) {
-            for (int d = 0; d < 24; d++) same("card " + p + " " + d, real.card(p, d), naive.card(p, d));
-            for (int d = 0; d < 64; d += 1 + below(3)) same("laid " + p + " " + d, real.laid(p, d), naive.laid(p, d));
-            for (int d = 0; d < dances; d++) same("set " + p + " " + d, real.set(p, d), naive.set(p, d));
-            for (int what = 0; what < 4; what++) same("about", real.about(p, what), naive.about(p, what));
+    /** Of all that can be asked, as much as there are calls left for, from a chance place on. */
+    private void compareRest() {
+        int people = naive.count(0);
+        int first = below(1000);
+        for (int i = 0; calls < CALLS; i++) {
+            int p = people == 0 ? 0 : (first + i) % people;
+            int d = (first + i / 7) % 24;
+            switch (i % 7) {
+                case 0: same("card " + p + " " + d, real.card(p, d), naive.card(p, d)); break;
+                case 1: same("set " + p + " " + d, real.set(p, d), naive.set(p, d)); break;
+                case 2: same("laid " + p + " " + d, real.laid(p, d), naive.laid(p, d)); break;
+                case 3: same("about " + p, real.about(p, d % 4), naive.about(p, d % 4)); break;
+                case 4: same("could " + d, real.could(d), naive.could(d)); break;
+                case 5: same("sets " + d, real.sets(d), naive.sets(d)); break;
+                default: same("count " + d % 8, real.count(d % 8), naive.count(d % 8)); break;
+            }
         }
-        for (int what = 0; what < 8; what++) same("count " + what, real.count(what), naive.count(what));
-        for (int d = 0; d < 24; d++) same("could " + d, real.could(d), naive.could(d));
     }
 
     private void doRun(int number) {
         run = number;
+        calls = 0;
         real = new DanceCards();
         naive = new NaiveBall();
         dances = 1 + below(24);
@@ -233,9 +245,9 @@ public final class ModelTest {
         for (int i = 0; i < first; i++) doPerson();
         int introductions = below(120);
         for (int i = 0; i < introductions; i++) doIntroduce();
-        int calls = CALLS - first - introductions;
-        for (int i = 0; i < calls / 2; i++) step();
-        compareAll();
+        int steps = calls + below(CALLS - MOST_OF_A_STEP - calls);
+        while (calls < steps) step();
+        compareRest();
     }
 
     public static void main(String[] args) {
